@@ -248,6 +248,19 @@ public final class PromiseTests {
             x.or();
             due("P7 the shorter of both, order " + order, x.shortest(5, 5), 0);
         }
+        for (int ends = 0; ends < 64; ends++) {
+            PathAlgebra one = new PathAlgebra();
+            one.edge(0, ends, true);
+            one.label(0);
+            one.label(1);
+            one.or();
+            due("P7 only x has ends " + ends, one.shortest(ends % 8, ends / 8), 1);
+            one.clear();
+            one.label(1);
+            one.label(0);
+            one.or();
+            due("P7 only y has ends " + ends, one.shortest(ends % 8, ends / 8), 1);
+        }
     }
 
     private static void promise8Star() {
@@ -327,7 +340,7 @@ public final class PromiseTests {
             due("P10 leads(0, " + n + ")", x.leads(0, n), false);
             due("P10 leads(" + n + ", " + n + ")", x.leads(n, n), false);
         }
-        // 1 + 8 * 0 as a place is also that of node 9 and node -1 together.
+        // 9 + 8 * -1 is the number of the pair (1, 0), which a path leads between.
         due("P10 leads(9, -1)", x.leads(9, -1), false);
     }
 
