@@ -1046,6 +1046,9 @@ public final class BoundaryTests {
             dueOnePair(after(edge(0, ends, true), label(0), label(1), or()), ends % 8, ends / 8, 1);
             dueOnePair(after(edge(0, ends, true), label(1), label(0), or()), ends % 8, ends / 8, 1);
         }
+        // Both have a path from 5 to 5: the shorter one counts, whichever side it is on.
+        due(after(join(graph(), label(2), at(5), or())), shortest(5, 5), 0);
+        due(after(join(graph(), at(5), label(2), or())), shortest(5, 5), 0);
         Subject x = after(join(graph(), at(7), at(0), or()));
         due(x, loops(), 129);
         due(x, pairs(), 2);
@@ -1111,6 +1114,11 @@ public final class BoundaryTests {
         due(after(label(0), label(0), clear(), label(0)), then(), STACK_LOW);
         due(after(join(starred(6, 6), clear())), label(0), 1);
         due(after(edge(2, 63, true), clear()), edge(2, 63, true), 1);
+        // The stack alone: all edges stay.
+        Subject x = after(join(allEdges(), label(0), clear()));
+        for (int i = 0; i < 192; i++) {
+            due(x, edge(i / 64, i % 64, true), 1);
+        }
     }
 
     private static void promise10() {

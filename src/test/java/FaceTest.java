@@ -8,11 +8,11 @@ import java.util.TreeSet;
 /** The class has the members of the document's face and shows no others. */
 public final class FaceTest {
     private static final Set<String> FACE = Set.of(
-            "public static final int PathAlgebra.BAD_LABEL",
-            "public static final int PathAlgebra.BAD_NODE",
-            "public static final int PathAlgebra.FULL",
-            "public static final int PathAlgebra.STACK_LOW",
-            "public static final int PathAlgebra.NO_PATH",
+            "public static final int PathAlgebra.BAD_LABEL = -1",
+            "public static final int PathAlgebra.BAD_NODE = -2",
+            "public static final int PathAlgebra.FULL = -3",
+            "public static final int PathAlgebra.STACK_LOW = -4",
+            "public static final int PathAlgebra.NO_PATH = -5",
             "public PathAlgebra()",
             "public int PathAlgebra.edge(int,int,boolean)",
             "public int PathAlgebra.label(int)",
@@ -30,11 +30,17 @@ public final class FaceTest {
             "public int PathAlgebra.widest()",
             "public int PathAlgebra.steps()");
 
-    private static Set<String> shown() {
+    /** The value is asked for only of constants that can be seen, since others have none to show. */
+    private static String withValue(Field f) throws IllegalAccessException {
+        boolean constant = Modifier.isPublic(f.getModifiers()) && Modifier.isStatic(f.getModifiers());
+        return constant ? f + " = " + f.get(null) : f.toString();
+    }
+
+    private static Set<String> shown() throws IllegalAccessException {
         Set<String> members = new TreeSet<>();
         for (Field f : PathAlgebra.class.getDeclaredFields()) {
             if (!Modifier.isPrivate(f.getModifiers())) {
-                members.add(f.toString());
+                members.add(withValue(f));
             }
         }
         for (Method m : PathAlgebra.class.getDeclaredMethods()) {
@@ -58,6 +64,11 @@ public final class FaceTest {
         return true;
     }
 
+    /** What is inherited can be seen from outside too, so only Object may be inherited from. */
+    private static boolean inheritsFromObjectAlone(Class<?> c) {
+        return c.getSuperclass() == Object.class && c.getInterfaces().length == 0;
+    }
+
     private static int failed(String what, boolean holds) {
         if (!holds) {
             System.out.println("does not hold: " + what);
@@ -65,7 +76,7 @@ public final class FaceTest {
         return holds ? 0 : 1;
     }
 
-    public static void main(String[] args) {
+    public static void main(String[] args) throws IllegalAccessException {
         Class<?> c = PathAlgebra.class;
         Set<String> missing = new TreeSet<>(FACE);
         missing.removeAll(shown());
@@ -73,7 +84,8 @@ public final class FaceTest {
         extra.removeAll(FACE);
         int wrong = failed("no member is missing: " + missing, missing.isEmpty())
                 + failed("no other member is shown: " + extra, extra.isEmpty())
-                + failed("public and final", Modifier.isPublic(c.getModifiers()) && Modifier.isFinal(c.getModifiers()))
+                + failed("public and final, no more", c.toGenericString().equals("public final class PathAlgebra"))
+                + failed("inherits from Object alone", inheritsFromObjectAlone(c))
                 + failed("no nested classes", c.getDeclaredClasses().length == 0)
                 + failed("no two methods of one name", privateNamesDiffer());
         System.out.println(wrong == 0 ? "the face is as due" : wrong + " things do not hold");
